@@ -331,7 +331,7 @@ public final class AgreementTest {
   }
 
   public static void main(String[] args) {
-    int runs = args.length > 0 ? Integer.parseInt(args[0]) : 360;
+    int runs = args.length > 0 ? Integer.parseInt(args[0]) : 240;
     long from = args.length > 1 ? Long.parseLong(args[1]) : 1;
     Expect expect = new Expect();
     for (int run = 0; run < runs && expect.isClean(); run++) {
