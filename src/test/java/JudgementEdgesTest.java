@@ -250,6 +250,21 @@ public final class JudgementEdgesTest {
     tells(y, "an UNLIKE SAYING is one of COURT", 1);
   }
 
+  private static void unlikeSayingsMakeNothingOne() {
+    e.about("promises 17, 18: 'a and b are ONE by one' that has an UNLIKE SAYING");
+    EqualCourt x = Scenes.withNames(4);
+    int f = x.built(0, 1, 0, 0, 0), g = x.built(0, 1, 1, 0, 0);
+    x.unlike(0, 1);
+    x.say(f, 2);
+    x.say(g, 2);
+    // {}, {0}, {1}, {2}, {0,1}, {0,2}, {1,2}
+    e.refused(x, "least(f, g, 6)", x.least(f, g, 6), SPENT);
+    e.fine(x, "least(f, g, 7)", x.least(f, g, 7), 2);
+    tells(x, "least()", 1, 2);
+    e.fine(x, "why(f, g)", x.why(f, g), 2);
+    tells(x, "why()", 1, 2);
+  }
+
   private static void leastOfAHundred() {
     e.about("promise 18: 100 SAYINGS");
     EqualCourt x = Scenes.chain(101);
@@ -335,7 +350,8 @@ public final class JudgementEdgesTest {
     e.about("promise 22: 'that has a TERM of t's CLASS as a PART'");
     EqualCourt x = Scenes.withNames(4);
     int first = x.built(0, 3, 0, 3, 3), second = x.built(0, 3, 3, 0, 3), third = x.built(0, 3, 3, 3, 0);
-    int row = x.row(3, 0), even = x.even(0, 3, 0), twice = x.row(0, 0), of1 = x.row(1, 3), deep = x.built(0, 1, first, 0, 0);
+    int row = x.row(3, 0), even = x.even(0, 3, 0), twice = x.row(0, 0), of1 = x.row(1, 3);
+    int deep = x.built(0, 1, first, 0, 0);
     int[] want = {first, second, third, row, even, twice};
     for (int i = 0; i < want.length; i++) e.due("uses(0, " + i + ")", x.uses(0, i), want[i]);
     e.due("one that has it twice is told once, a PART of a PART is none", x.uses(0, want.length), NONE);
@@ -413,6 +429,7 @@ public final class JudgementEdgesTest {
     theEmptySetIsTheFirst();
     the500thSet();
     setsComeInOrder();
+    unlikeSayingsMakeNothingOne();
     leastOfAHundred();
     becauseOfTheLatestThatWasDone();
     headOfAClass();

@@ -223,6 +223,44 @@ public final class LevelAndLawEdgesTest {
     }
   }
 
+  private static void whatWasNotMadeCanBeMade() {
+    e.about("promise 27: '(then none is made)': what it would have made comes later as a new TERM");
+    EqualCourt x = new EqualCourt();
+    int h = x.name(90), a = x.name(0), b = x.name(1);
+    int row = x.row(h, h), even = x.even(0, row, h), f = x.built(0, 1, even, 0, 0), t = x.built(1, 3, f, even, row);
+    int g = x.built(5, 1, a, 0, 0), k = x.built(5, 1, b, 0, 0);
+    for (int v = 0; v < 108; v++) x.number(v);
+    e.due("room for 3", x.many(0), 117);
+    e.refused(x, "it needs 4", x.instance(t, a, a, a), FULL);
+    e.due("many(0)", x.many(0), 117);
+    e.fine(x, "the EVEN one's ROW is not there", x.row(a, a), 117);
+    e.refused(x, "it needs 3", x.instance(t, a, a, a), FULL);
+    e.fine(x, "the EVEN one is not there", x.even(0, 117, a), 118);
+    e.refused(x, "it needs 2", x.instance(t, a, a, a), FULL);
+    e.fine(x, "the BUILT one is not there", x.built(0, 1, 118, 0, 0), 119);
+    e.refused(x, "it needs 1", x.instance(t, a, a, a), FULL);
+    int[] uses = {g, 117, 118, NONE};
+    for (int i = 0; i < uses.length; i++) e.due("uses(a, " + i + ")", x.uses(a, i), uses[i]);
+    x.say(b, a);
+    e.due("what was built of its PARTS ahead is judged as ever", x.judge(g, k), 1);
+    e.due("CLASSES", x.many(6), 118);
+    x.say(h, a);
+    e.due("what was made is judged as ever", x.judge(row, 117), 1);
+    e.due("what was made is judged as ever", x.judge(even, 118), 1);
+    e.due("what was made is judged as ever", x.judge(f, 119), 1);
+  }
+
+  private static void instancesMakeNoMore() {
+    e.about("Terms: 'the TERMS that this needs are made'");
+    EqualCourt x = new EqualCourt();
+    int h = x.name(90), o = x.name(91), a = x.name(0), f = x.built(0, 1, o, 0, 0);
+    x.built(1, 3, a, a, f); // its neighbours have PARTS in which a HOLE stands
+    int t = x.built(2, 3, h, h, a);
+    x.built(3, 3, f, f, f);
+    e.fine(x, "one TERM", x.instance(t, a, a, a), 7);
+    e.due("many(0)", x.many(0), 8);
+  }
+
   private static void instancesWhenFull() {
     e.about("promise 27: what is there is no need");
     EqualCourt x = new EqualCourt();
@@ -549,6 +587,8 @@ public final class LevelAndLawEdgesTest {
     holesAreNames90To92();
     instancesNumberTheirTerms();
     instancesThatNeedTooMuch();
+    whatWasNotMadeCanBeMade();
+    instancesMakeNoMore();
     instancesWhenFull();
     followNoSuchLaw();
     followNothing();

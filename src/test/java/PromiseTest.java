@@ -12,20 +12,6 @@ public final class PromiseTest {
   private static final int NONE = EqualCourt.NONE;
   private static final Expect e = new Expect();
 
-  /** TERMS 0 to n - 1 are NAMES 0 to n - 1. */
-  private static EqualCourt withNames(int n) {
-    EqualCourt x = new EqualCourt();
-    for (int i = 0; i < n; i++) x.name(i);
-    return x;
-  }
-
-  /** 120 TERMS: NAMES 0 to 89 and NUMBERS 1000 to 1029. */
-  private static EqualCourt full() {
-    EqualCourt x = withNames(90);
-    for (int i = 0; i < 30; i++) x.number(1000 + i);
-    return x;
-  }
-
   private static void tellsClashed(EqualCourt x, int... want) {
     for (int i = 0; i < want.length; i++) e.due("clashed(" + i + ")", x.clashed(i), want[i]);
     e.due("clashed(-1)", x.clashed(-1), NONE);
@@ -85,7 +71,7 @@ public final class PromiseTest {
     e.fine(x, "name(99) again", x.name(99), 0);
     e.due("many(0)", x.many(0), 2);
     for (int wrong : new int[] {-1, 100, MIN, MAX}) e.refused(x, "name(" + wrong + ")", x.name(wrong), BEYOND);
-    x = full();
+    x = Scenes.withTerms(120);
     e.refused(x, "name(90) when full", x.name(90), FULL);
     e.refused(x, "name(100) when full", x.name(100), BEYOND);
     e.fine(x, "name(89) when full", x.name(89), 89);
@@ -93,18 +79,18 @@ public final class PromiseTest {
   }
 
   private static void numbers() {
-    EqualCourt x = withNames(1);
+    EqualCourt x = Scenes.withNames(1);
     int[] all = {0, -1, 1, MIN, MAX, 90};
     for (int i = 0; i < all.length; i++) e.fine(x, "number(" + all[i] + ")", x.number(all[i]), i + 1);
     for (int i = 0; i < all.length; i++) e.fine(x, "number again", x.number(all[i]), i + 1);
     e.due("kind", x.kind(1), 1);
-    x = full();
+    x = Scenes.withTerms(120);
     e.refused(x, "number(0) when full", x.number(0), FULL);
     e.fine(x, "number(1029) when full", x.number(1029), 119);
   }
 
   private static void builtOnes() {
-    EqualCourt x = withNames(3);
+    EqualCourt x = Scenes.withNames(3);
     e.fine(x, "built one PART", x.built(0, 1, 0, -5, MAX), 3);
     e.fine(x, "built the same, other unused", x.built(0, 1, 0, 1, 2), 3);
     e.fine(x, "built two PARTS", x.built(0, 2, 0, 1, 77), 4);
@@ -123,7 +109,7 @@ public final class PromiseTest {
     e.refused(x, "PART 1 wrong", x.built(0, 2, 0, -1, 0), BEYOND);
     e.refused(x, "PART 2 wrong", x.built(0, 3, 0, 0, MAX), BEYOND);
     e.due("many(0)", x.many(0), 8);
-    x = withNames(90);
+    x = Scenes.withNames(90);
     for (int i = 0; i < 30; i++) x.built(0, 1, i, 0, 0);
     e.refused(x, "full", x.built(0, 1, 30, 0, 0), FULL);
     e.refused(x, "full and BEYOND", x.built(0, 1, 120, 0, 0), BEYOND);
@@ -131,20 +117,20 @@ public final class PromiseTest {
   }
 
   private static void rows() {
-    EqualCourt x = withNames(2);
+    EqualCourt x = Scenes.withNames(2);
     e.fine(x, "row(0, 1)", x.row(0, 1), 2);
     e.fine(x, "row(1, 0)", x.row(1, 0), 3);
     e.fine(x, "row(0, 1) again", x.row(0, 1), 2);
     e.fine(x, "row(2, 2)", x.row(2, 2), 4);
     e.refused(x, "row(5, 0)", x.row(5, 0), BEYOND);
     e.refused(x, "row(0, -1)", x.row(0, -1), BEYOND);
-    x = full();
+    x = Scenes.withTerms(120);
     e.refused(x, "full", x.row(0, 0), FULL);
     e.refused(x, "full and BEYOND", x.row(120, 0), BEYOND);
   }
 
   private static void evenOnes() {
-    EqualCourt x = withNames(2);
+    EqualCourt x = Scenes.withNames(2);
     e.fine(x, "even(0, 0, 1)", x.even(0, 0, 1), 2);
     e.fine(x, "built with the same HEAD", x.built(0, 2, 0, 1, 0), 3);
     e.fine(x, "even turned is another TERM", x.even(0, 1, 0), 4);
@@ -157,7 +143,7 @@ public final class PromiseTest {
     e.refused(x, "HEAD -1", x.even(-1, 0, 0), BEYOND);
     e.refused(x, "a wrong", x.even(0, 6, 0), BEYOND);
     e.refused(x, "b wrong", x.even(0, 0, -1), BEYOND);
-    x = full();
+    x = Scenes.withTerms(120);
     e.refused(x, "full", x.even(0, 0, 0), FULL);
     e.refused(x, "full and BEYOND", x.even(0, 0, 120), BEYOND);
   }
@@ -211,7 +197,7 @@ public final class PromiseTest {
   }
 
   private static void howMany() {
-    EqualCourt x = withNames(3);
+    EqualCourt x = Scenes.withNames(3);
     x.say(0, 1);
     x.unlike(0, 2);
     x.drop(1);
@@ -227,7 +213,7 @@ public final class PromiseTest {
   }
 
   private static void saying() {
-    EqualCourt x = withNames(3);
+    EqualCourt x = Scenes.withNames(3);
     x.number(5);
     x.number(6);
     e.fine(x, "say(0, 1)", x.say(0, 1), 0);
@@ -251,7 +237,7 @@ public final class PromiseTest {
   }
 
   private static void unlikeness() {
-    EqualCourt x = withNames(4);
+    EqualCourt x = Scenes.withNames(4);
     e.fine(x, "unlike(0, 1)", x.unlike(0, 1), 0);
     e.fine(x, "say(1, 2)", x.say(1, 2), 1);
     e.fine(x, "say(2, 3)", x.say(2, 3), 2);
@@ -269,7 +255,7 @@ public final class PromiseTest {
   }
 
   private static void dropping() {
-    EqualCourt x = withNames(3);
+    EqualCourt x = Scenes.withNames(3);
     x.say(0, 1);
     x.say(1, 2);
     x.unlike(0, x.name(9));
@@ -286,7 +272,7 @@ public final class PromiseTest {
   }
 
   private static void whatWasSaid() {
-    EqualCourt x = withNames(3);
+    EqualCourt x = Scenes.withNames(3);
     x.say(2, 0);
     x.unlike(0, 1);
     x.drop(1);
@@ -300,7 +286,7 @@ public final class PromiseTest {
   }
 
   private static void clashedCore() {
-    EqualCourt x = withNames(4);
+    EqualCourt x = Scenes.withNames(4);
     x.say(0, 1);
     x.say(1, 2);
     x.say(0, 2);
@@ -316,7 +302,7 @@ public final class PromiseTest {
     x.why(2, 3);
     tellsClashed(x, 0, 1);
     // Of two ways to CLASH the one of the later SAYINGS is left.
-    EqualCourt y = withNames(4);
+    EqualCourt y = Scenes.withNames(4);
     y.unlike(0, 1);
     y.number(0);
     y.number(1);
@@ -327,7 +313,7 @@ public final class PromiseTest {
   }
 
   private static void judging() {
-    EqualCourt x = withNames(4);
+    EqualCourt x = Scenes.withNames(4);
     int f0 = x.built(0, 1, 0, 0, 0), f1 = x.built(0, 1, 1, 0, 0), ff = x.built(0, 2, 0, 0, 0), g1 = x.built(1, 1, 1, 0, 0);
     int r = x.row(0, 2), q = x.row(1, 3), v = x.even(3, f0, f1), w = x.even(3, f1, 1);
     x.say(0, 1);
@@ -348,7 +334,7 @@ public final class PromiseTest {
     e.due("clash the other way", x.judge(0, 3), 0);
     e.due("an ASK changes nothing", x.many(1), 4);
     // Being ONE goes down through ROWS, but not through BUILT ones.
-    EqualCourt y = withNames(4);
+    EqualCourt y = Scenes.withNames(4);
     y.say(y.built(0, 1, 0, 0, 0), y.built(0, 1, 1, 0, 0));
     e.due("BUILT ones do not go down", y.judge(0, 1), 2);
     y.say(y.row(y.row(0, 1), 2), y.row(y.row(3, 0), 1));
@@ -358,7 +344,7 @@ public final class PromiseTest {
   }
 
   private static void reasons() {
-    EqualCourt x = withNames(5);
+    EqualCourt x = Scenes.withNames(5);
     x.say(0, 1);
     x.say(1, 2);
     x.unlike(3, 4);
@@ -380,7 +366,7 @@ public final class PromiseTest {
     int n = x.number(1), m = x.number(2);
     e.fine(x, "why of two NUMBERS", x.why(n, m), 0);
     // The document's own way to THIN: the first ones go, though they would have been fewer.
-    EqualCourt y = withNames(4);
+    EqualCourt y = Scenes.withNames(4);
     y.say(0, 3);
     y.say(0, 1);
     y.say(1, 2);
@@ -390,7 +376,7 @@ public final class PromiseTest {
   }
 
   private static void leastReasons() {
-    EqualCourt x = withNames(5);
+    EqualCourt x = Scenes.withNames(5);
     x.say(0, 1);
     x.say(1, 2);
     x.say(2, 3);
@@ -420,7 +406,7 @@ public final class PromiseTest {
     int v = x.even(0, 0, 4), w = x.even(0, 4, 0);
     e.fine(x, "turned EVEN ones need none", x.least(v, w, 1), 0);
     // GONE ones are not tried, UNLIKE ones are.
-    EqualCourt y = withNames(4);
+    EqualCourt y = Scenes.withNames(4);
     y.say(0, 1);
     y.unlike(2, 3);
     y.say(0, 2);
@@ -432,13 +418,13 @@ public final class PromiseTest {
 
   private static void leastOfAll() {
     // Eight SAYINGS, all needed: the last of 256 sets.
-    EqualCourt x = withNames(9);
+    EqualCourt x = Scenes.withNames(9);
     for (int i = 0; i < 8; i++) x.say(i, i + 1);
     e.refused(x, "least, 255", x.least(0, 8, 255), SPENT);
     e.fine(x, "least, 256", x.least(0, 8, 256), 8);
     tellsBecause(x, 0, 1, 2, 3, 4, 5, 6, 7);
     // A hundred SAYINGS: the ones end with the 101st set, and {3,6} is the 398th.
-    EqualCourt y = withNames(5);
+    EqualCourt y = Scenes.withNames(5);
     for (int s = 0; s < 100; s++) {
       if (s == 3) y.say(0, 1);
       else if (s == 6) y.say(1, 2);
@@ -451,7 +437,7 @@ public final class PromiseTest {
   }
 
   private static void becauseOfTheLatest() {
-    EqualCourt x = withNames(3);
+    EqualCourt x = Scenes.withNames(3);
     x.say(0, 1);
     x.say(1, 2);
     x.why(0, 2);
@@ -465,7 +451,7 @@ public final class PromiseTest {
   }
 
   private static void classesTold() {
-    EqualCourt x = withNames(6);
+    EqualCourt x = Scenes.withNames(6);
     x.say(5, 2);
     x.say(2, 4);
     e.due("head(5)", x.head(5), 2);
@@ -507,13 +493,13 @@ public final class PromiseTest {
     e.due("the 2nd", x.world(t[3]), 5);
     e.due("the 3rd", x.world(t[4]), 6);
     for (int wrong : new int[] {-1, 10, MIN, MAX}) e.due("world(" + wrong + ")", x.world(wrong), 1099511627776L);
-    EqualCourt y = withNames(60);
+    EqualCourt y = Scenes.withNames(60);
     for (int i = 0; i < 60; i++) y.number(i);
     e.due("all lesser ints are NUMBERS", y.world(59), 119);
   }
 
   private static void levelsBeginAndEnd() {
-    EqualCourt x = withNames(4);
+    EqualCourt x = Scenes.withNames(4);
     x.say(0, 1);
     x.say(1, 2);
     e.fine(x, "push()", x.push(), 1);
@@ -548,7 +534,7 @@ public final class PromiseTest {
   }
 
   private static void lawsCome() {
-    EqualCourt x = withNames(2);
+    EqualCourt x = Scenes.withNames(2);
     e.refused(x, "law(0, 2)", x.law(0, 2), BEYOND);
     e.refused(x, "law(-1, 0)", x.law(-1, 0), BEYOND);
     for (int i = 0; i < 10; i++) e.fine(x, "law(0, 1)", x.law(0, 1), i);
@@ -606,17 +592,8 @@ public final class PromiseTest {
     e.refused(y, "118 deep", y.instance(u, b, b, b), FULL);
   }
 
-  /** f(90) is 90. */
-  private static EqualCourt idempotent(int names) {
-    EqualCourt x = new EqualCourt();
-    int h = x.name(90);
-    x.law(x.built(0, 1, h, 0, 0), h);
-    for (int i = 0; i < names; i++) x.name(i);
-    return x;
-  }
-
   private static void following() {
-    EqualCourt x = idempotent(3);
+    EqualCourt x = Scenes.lawful(3);
     // f(90), 2, 3, 4 are gone over, the HOLE isn't.
     e.fine(x, "follow(0, 50)", x.follow(0, 50), 4);
     e.due("ended()", x.ended(), 0);
@@ -632,7 +609,7 @@ public final class PromiseTest {
     e.refused(x, "n 0", x.follow(0, 0), BEYOND);
     e.refused(x, "n 51", x.follow(0, 51), BEYOND);
     e.due("a refused one leaves ended()", x.ended(), 0);
-    EqualCourt y = idempotent(3);
+    EqualCourt y = Scenes.lawful(3);
     e.fine(y, "follow(0, 2)", y.follow(0, 2), 2);
     e.due("ended()", y.ended(), 1);
     e.fine(y, "the rest, all that was asked for", y.follow(0, 2), 2);
@@ -640,29 +617,29 @@ public final class PromiseTest {
   }
 
   private static void followingToTheEnds() {
-    EqualCourt x = idempotent(89);
+    EqualCourt x = Scenes.lawful(89);
     for (int i = 0; i < 26; i++) x.number(i);
     // 117 TERMS: f(90), 89 NAMES, 26 NUMBERS, and room for 3.
     e.fine(x, "TERMS", x.follow(0, 50), 3);
     e.due("ended()", x.ended(), 2);
     e.due("many(0)", x.many(0), 120);
-    EqualCourt y = idempotent(3);
+    EqualCourt y = Scenes.lawful(3);
     for (int i = 0; i < 98; i++) y.say(2, 2);
     e.fine(y, "SAYINGS", y.follow(0, 50), 2);
     e.due("ended()", y.ended(), 3);
     e.due("the INSTANCE stays", y.many(0), 8);
     // Only when one more would come.
-    EqualCourt z = idempotent(1);
+    EqualCourt z = Scenes.lawful(1);
     for (int i = 0; i < 98; i++) z.say(2, 2);
     e.fine(z, "SAYINGS that do", z.follow(0, 50), 2);
     e.due("ended()", z.ended(), 0);
-    EqualCourt c = idempotent(2);
+    EqualCourt c = Scenes.lawful(2);
     c.unlike(3, c.built(0, 1, 3, 0, 0));
     e.fine(c, "CLASH", c.follow(0, 50), 2);
     e.due("ended()", c.ended(), 4);
     tellsClashed(c, 0);
     // 100 SAYINGS are looked for ahead of a CLASH.
-    EqualCourt d = idempotent(0);
+    EqualCourt d = Scenes.lawful(0);
     int n = d.number(1);
     d.unlike(n, d.built(0, 1, n, 0, 0));
     for (int i = 0; i < 98; i++) d.say(n, n);
@@ -688,12 +665,12 @@ public final class PromiseTest {
 
   private static void followingHoles() {
     // No HOLE: once.
-    EqualCourt x = withNames(3);
+    EqualCourt x = Scenes.withNames(3);
     x.law(1, 2);
     e.fine(x, "no HOLE", x.follow(0, 50), 1);
     e.due("judge(1, 2)", x.judge(1, 2), 1);
     // HOLE 91 alone: 90 and 92 are the first HEAD TERM.
-    EqualCourt y = withNames(2);
+    EqualCourt y = Scenes.withNames(2);
     int h = y.name(91);
     y.law(y.row(h, h), h);
     e.fine(y, "HOLE 91", y.follow(0, 2), 2);
@@ -719,7 +696,7 @@ public final class PromiseTest {
     e.fine(w, "one more", w.follow(0, 50), 0);
     e.due("ended()", w.ended(), 0);
     // A CLASS with a HOLE that isn't its HEAD TERM is gone over.
-    EqualCourt v = withNames(1);
+    EqualCourt v = Scenes.withNames(1);
     v.say(0, v.name(90));
     v.law(v.name(91), v.name(90));
     e.fine(v, "by its HEAD TERM", v.follow(0, 50), 0);
@@ -727,7 +704,7 @@ public final class PromiseTest {
   }
 
   private static void claims() {
-    EqualCourt x = withNames(2);
+    EqualCourt x = Scenes.withNames(2);
     e.refused(x, "claim(1, 2, 0, 0, 0)", x.claim(1, 2, 0, 0, 0), BEYOND);
     e.refused(x, "claim(1, 0, -1, 0, 0)", x.claim(1, 0, -1, 0, 0), BEYOND);
     for (int i = 0; i < 100; i++) e.fine(x, "claim", x.claim(MIN, 0, 1, MAX, MIN), i);
@@ -759,7 +736,7 @@ public final class PromiseTest {
   }
 
   private static void checks() {
-    EqualCourt x = withNames(5);
+    EqualCourt x = Scenes.withNames(5);
     int s = x.say(0, 1), u = x.unlike(0, 4), r = x.row(0, 2), q = x.row(1, 3), rq = x.say(r, q);
     int f = x.built(0, 2, 0, 4, 0), g = x.built(0, 2, 1, 4, 0), h = x.built(1, 2, 1, 4, 0), k = x.built(0, 1, 1, 0, 0);
     int v = x.even(0, 0, 2), w = x.even(0, 1, 3), wt = x.even(0, 3, 1), w1 = x.even(1, 1, 3);
@@ -818,7 +795,7 @@ public final class PromiseTest {
   }
 
   private static void statuses() {
-    EqualCourt x = withNames(2);
+    EqualCourt x = Scenes.withNames(2);
     x.name(100);
     e.due("status()", x.status(), BEYOND);
     x.judge(0, 1);

@@ -111,6 +111,15 @@ public final class SayingEdgesTest {
     e.due("no FIRST with a REST", x.judge(0, 3), 2);
     x.drop(1);
     e.due("FIRSTS no more", x.judge(0, 2), 2);
+    // A CLASS that has a ROW by another, or by the other of two, tells no less.
+    EqualCourt z = Scenes.withNames(7);
+    int p = z.row(0, 1), s = z.row(2, 3);
+    z.say(5, 4);
+    z.say(6, 5);
+    z.say(4, p);
+    z.say(4, s);
+    e.due("a ROW that came into a larger CLASS", z.judge(0, 2), 1);
+    e.due("a ROW that came into a larger CLASS", z.judge(1, 3), 1);
     // A ROW that is ONE with its own REST: all that is built on it goes down.
     EqualCourt y = Scenes.withNames(2);
     int inner = y.row(0, 1), outer = y.row(0, inner);
@@ -130,6 +139,54 @@ public final class SayingEdgesTest {
     e.due("an EVEN one", x.head(x.even(0, 1, 3)), v);
     e.due("an EVEN one, crossed", x.head(x.even(0, 3, 1)), v);
     e.due("many(6)", x.many(6), 5);
+  }
+
+  /** All that can be built of so few TERMS that 120 hold it. */
+  private static void whatIsBuiltOfTheSameParts() {
+    e.about("Terms: 'ONE .. by no more than this': all HEADS and KINDS over the same PARTS");
+    EqualCourt x = Scenes.withNames(1);
+    for (int head = 0; head < 20; head++) {
+      for (int n = 1; n <= 3; n++) x.built(head, n, 0, 0, 0);
+      x.even(head, 0, 0);
+    }
+    x.row(0, 0);
+    e.due("TERMS", x.many(0), 82);
+    e.due("CLASSES", x.many(6), 82);
+    EqualCourt y = Scenes.withNames(14);
+    for (int a = 0; a < 14; a++) {
+      for (int b = a + 1; b < 14; b++) y.even(0, a, b);
+    }
+    e.due("EVEN ones that share a PART", y.many(6), 14 + 91);
+  }
+
+  /** Of k CLASSES of NAMES, k * k CLASSES of BUILT ones or ROWS are made, and fewer EVEN ones. */
+  private static void whatIsBuiltOfTenNames() {
+    e.about("Terms: 'if their PARTS are, each with the other's at its place': 110 TERMS");
+    int[][] says = {{0, 1}, {3, 2}, {5, 9}, {9, 8}, {1, 3}, {4, 6}, {6, 8}, {7, 0}, {2, 5}};
+    for (int kind = 2; kind <= 4; kind++) {
+      EqualCourt x = Scenes.withNames(10);
+      for (int a = 0; a < 10; a++) {
+        for (int b = 0; b < 10; b++) {
+          if (kind == 2) x.built(0, 2, a, b, 0);
+          else if (kind == 3) x.row(a, b);
+          else x.even(0, a, b);
+        }
+      }
+      e.due("by no SAYING", x.many(6), classes(kind, 10));
+      for (int k = 0; k < says.length; k++) {
+        x.say(says[k][0], says[k][1]);
+        e.due("KIND " + kind + ", by SAYINGS 0 to " + k, x.many(6), classes(kind, 9 - k));
+      }
+      for (int t = 11; t < 110; t += 7) e.due("all are ONE", x.head(t), 10);
+      for (int k = 0; k < says.length; k++) {
+        x.drop((k * 4) % 9);
+        e.due("KIND " + kind + ", without " + (k + 1) + " of them", x.many(6), classes(kind, k + 2));
+      }
+    }
+  }
+
+  private static int classes(int kind, int names) {
+    return names + (kind == 4 ? names * (names + 1) / 2 : names * names);
   }
 
   private static void numbersThatAreUnlikeClash() {
@@ -340,6 +397,107 @@ public final class SayingEdgesTest {
     e.due("clashed(99) of say()", y.clashed(99), NONE);
   }
 
+  private static void clashesOfNumbers() {
+    e.about("promise 15: a CORE by which two NUMBERS would be ONE");
+    EqualCourt x = Scenes.withNames(4);
+    int five = x.number(5), six = x.number(6);
+    x.say(2, 3);
+    x.say(0, five);
+    x.say(2, 0);
+    x.say(1, six);
+    e.refused(x, "say(2, 1)", x.say(2, 1), CLASH);
+    tells(x, "both NUMBERS", 1, 2, 3);
+    e.refused(x, "say(0, six)", x.say(0, six), CLASH);
+    tells(x, "one of them is said", 1);
+    x.drop(1);
+    x.say(x.built(0, 1, 0, 0, 0), five);
+    int f = x.built(0, 1, 3, 0, 0);
+    e.refused(x, "say(f(3), six)", x.say(f, six), CLASH);
+    tells(x, "3 is 2 is 0", 0, 2, 4);
+    x.drop(0);
+    x.say(f, six);
+    e.refused(x, "say(0, 3)", x.say(0, 3), CLASH);
+    tells(x, "what is built of them", 4, 5);
+  }
+
+  private static void nothingIsLeftOfAClash() {
+    e.about("promise 11: what a SAYING that CLASHES would have made ONE stays apart");
+    EqualCourt x = Scenes.withNames(6);
+    int five = x.number(5), six = x.number(6);
+    int r = x.row(0, five), q = x.row(1, six), p = x.row(five, 2), s = x.row(six, 3);
+    int f0 = x.built(0, 1, 0, 0, 0), f1 = x.built(0, 1, 1, 0, 0), f4 = x.built(0, 1, 4, 0, 0);
+    e.refused(x, "by RESTS", x.say(r, q), CLASH);
+    e.due("their FIRSTS", x.judge(0, 1), 2);
+    e.refused(x, "by FIRSTS", x.say(p, s), CLASH);
+    e.due("their RESTS", x.judge(2, 3), 2);
+    e.due("CLASSES", x.many(6), x.many(0));
+    x.say(0, 4);
+    e.due("what is built of them is judged as ever", x.judge(f0, f4), 1);
+    e.due("what is built of them is judged as ever", x.judge(f0, f1), 2);
+    x.say(f0, five);
+    x.say(f1, six);
+    e.refused(x, "by what is built of them", x.say(4, 1), CLASH);
+    x.drop(2);
+    x.say(1, 4);
+    e.due("f(1) is f(0) now", x.judge(f1, five), 1);
+    e.due("and the ROW stays apart", x.judge(r, q), 0);
+  }
+
+  private static void nothingIsLeftForLater() {
+    e.about("promise 11: what a SAYING that CLASHES would have made ONE stays apart in what comes later");
+    EqualCourt x = Scenes.withNames(4);
+    int five = x.number(5), six = x.number(6);
+    int r = x.row(0, five), q = x.row(1, six), p = x.row(five, 2), s = x.row(six, 3);
+    int[][] pairs = {{r, q}, {p, s}};
+    for (int[] ab : pairs) {
+      x.push();
+      e.refused(x, "two ROWS", x.say(ab[0], ab[1]), CLASH);
+      x.row(x.name(9), ab[0]);
+      e.due("a TERM that comes behind it", x.many(6), x.many(0));
+      e.refused(x, "two ROWS again", x.say(ab[0], ab[1]), CLASH);
+      x.pop();
+      e.due("a level that ends behind it", x.many(6), x.many(0));
+      e.refused(x, "two ROWS once more", x.say(ab[0], ab[1]), CLASH);
+      x.built(7, 1, ab[1], 0, 0);
+      x.drop(x.say(ab[0], ab[0]));
+      e.due("a SAYING that is GONE behind it", x.many(6), x.many(0));
+    }
+    e.due("judge(0, 1)", x.judge(0, 1), 2);
+    e.due("judge(2, 3)", x.judge(2, 3), 2);
+    // What is built of two TERMS, ahead of and behind what makes them CLASH.
+    EqualCourt y = Scenes.withNames(2);
+    int[] of0 = new int[5], of1 = new int[5];
+    for (int head = 0; head < 5; head++) {
+      of0[head] = y.built(head, 1, 0, 0, 0);
+      of1[head] = y.built(head, 1, 1, 0, 0);
+    }
+    y.say(of0[2], y.number(5));
+    int last = y.say(of1[2], y.number(6));
+    e.refused(y, "say(0, 1)", y.say(0, 1), CLASH);
+    e.refused(y, "say(1, 0)", y.say(1, 0), CLASH);
+    y.drop(last);
+    y.say(0, 1);
+    for (int head = 0; head < 5; head++) e.due("HEAD " + head, y.judge(of0[head], of1[head]), 1);
+  }
+
+  private static void manyAreBuiltOfOne() {
+    e.about("Terms: 'if their PARTS are': 120 TERMS, of two of which all others are built");
+    for (int turn = 0; turn < 2; turn++) {
+      EqualCourt x = Scenes.withNames(2);
+      for (int head = 0; head < 20; head++) {
+        for (int a = 0; a < 2; a++) {
+          x.built(head, 3, a, a, a);
+          x.built(head, 2, a, a, 0);
+          x.even(head, a, a);
+        }
+      }
+      // Of NAME 0 there are 60, of NAME 1 there is room for 58.
+      e.due("TERMS", x.many(0), 120);
+      x.say(turn, 1 - turn);
+      e.due("CLASSES", x.many(6), 1 + 60);
+    }
+  }
+
   private static void thinnedFromTheFirstOn() {
     e.about("Terms: 'TO THIN': 'from the first on each is left out for good'");
     EqualCourt x = Scenes.withNames(4);
@@ -399,7 +557,7 @@ public final class SayingEdgesTest {
     x.follow(1, 9);
     e.due("ended()", x.ended(), 4);
     tells(x, "a follow() that ended so", 3, 4);
-    while (x.many(1) < 100) x.say(0, 0);
+    for (int s = x.many(1); s < 100; s++) x.say(0, 0);
     x.unlike(1, 1);
     tells(x, "an unlike() that is FULL", 3, 4);
   }
@@ -414,6 +572,9 @@ public final class SayingEdgesTest {
     evenOnesByTheirParts();
     rowsTellOfTheirParts();
     aTermThatComesLater();
+    whatIsBuiltOfTheSameParts();
+    whatIsBuiltOfTenNames();
+    manyAreBuiltOfOne();
     numbersThatAreUnlikeClash();
     unlikeSayingsClash();
     sayingsOfNoTerm();
@@ -426,6 +587,9 @@ public final class SayingEdgesTest {
     whatIsNotSaid();
     clashesThatNeedNoSaying();
     clashesThatNeedAllSayings();
+    clashesOfNumbers();
+    nothingIsLeftOfAClash();
+    nothingIsLeftForLater();
     thinnedFromTheFirstOn();
     clashedOfTheLatestThatClashed();
     e.end();

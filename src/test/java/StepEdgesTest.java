@@ -231,6 +231,14 @@ public final class StepEdgesTest {
     y.claim(3, 0, 2, 0, 2);
     y.claim(0, 0, 2, 0, 0);
     e.due("a STEP behind it", y.check(0, 2), 1);
+    y.unclaim();
+    y.claim(1, 5, 5, 0, 0);
+    y.claim(3, 5, 3, 0, 1);
+    e.due("j is itself, that says it", y.check(5, 3), 1);
+    y.unclaim();
+    y.claim(1, 5, 5, 0, 0);
+    y.claim(3, 3, 5, 1, 0);
+    e.due("i is itself, that says it", y.check(3, 5), 1);
   }
 
   private static void reason4() {
@@ -266,11 +274,14 @@ public final class StepEdgesTest {
         x.unclaim();
         int k = 0;
         for (int s = 0; s < 3; s++) if (s != lacks) k = x.claim(0, s, s + 3, s, 0) + 1;
-        x.claim(4, fs[many - 1], gs[many - 1], 0, 0);
-        e.due(many + " PARTS, STEP for PART " + lacks + " lacks", x.check(fs[many - 1], gs[many - 1]), lacks < 0 ? -1 : k);
+        int f = fs[many - 1], g = gs[many - 1];
+        x.claim(4, f, g, 0, 0);
+        e.due(many + " PARTS, STEP for PART " + lacks + " lacks", x.check(f, g), lacks < 0 ? -1 : k);
       }
     }
-    int[][] unlike = {{fs[0], other}, {fs[0], gs[1]}, {fs[1], gs[0]}, {fs[1], gs[2]}, {even, evenOther}, {number, number}};
+    int[][] unlike = {
+      {fs[0], other}, {fs[0], gs[1]}, {fs[1], gs[0]}, {fs[1], gs[2]}, {even, evenOther}, {number, number},
+    };
     for (int[] ab : unlike) {
       x.unclaim();
       for (int s = 0; s < 3; s++) x.claim(0, s, s + 3, s, 0);
@@ -282,6 +293,23 @@ public final class StepEdgesTest {
     x.claim(4, fs[1], gs[1], 0, 0);
     x.claim(0, 1, 4, 1, 0);
     e.due("a STEP behind it", x.check(1, 4), 1);
+    // Their neighbours have other PARTS, and the last TERM has no neighbour.
+    EqualCourt y = Scenes.withNames(4);
+    int f = y.built(0, 3, 0, 0, 0);
+    y.row(2, 2);
+    int g = y.built(0, 3, 1, 1, 1);
+    y.row(3, 3);
+    for (int v = 0; v < 111; v++) y.number(v);
+    int last = y.built(0, 3, 1, 0, 1);
+    e.due("the last TERM", last, 119);
+    y.say(0, 1);
+    y.claim(0, 0, 1, 0, 0);
+    y.claim(4, f, g, 0, 0);
+    e.due("three PARTS and no more", y.check(f, g), -1);
+    y.claim(4, f, last, 0, 0);
+    e.due("three PARTS of the last TERM", y.check(f, last), -1);
+    y.claim(4, last, last, 0, 0);
+    e.due("the last TERM and itself", y.check(last, last), -1);
   }
 
   private static void reason4EvenOnes() {
@@ -291,8 +319,8 @@ public final class StepEdgesTest {
     x.say(0, 2);
     x.say(1, 3);
     int[][] rows = {
-      {v, w, 1, -1}, {v, w, 0, 2}, {v, w, 2, 2}, {v, w, -1, 2}, {v, w, MIN, 2}, {v, w, MAX, 2}, {w, v, 1, 2}, {v, other, 1, 2},
-      {v, turned, 1, -1}, {v, turned, 0, 2}, {v, v, 0, -1}, {v, v, 1, 2},
+      {v, w, 1, -1}, {v, w, 0, 2}, {v, w, 2, 2}, {v, w, -1, 2}, {v, w, MIN, 2}, {v, w, MAX, 2},
+      {w, v, 1, 2}, {v, other, 1, 2}, {v, turned, 1, -1}, {v, turned, 0, 2}, {v, v, 0, -1}, {v, v, 1, 2},
     };
     for (int[] r : rows) {
       x.unclaim();
@@ -310,7 +338,7 @@ public final class StepEdgesTest {
   }
 
   private static void reasons5And6() {
-    e.about("Terms: '5, 6: STEP i, ahead of it, says that of two ROWS of which a and b are the FIRSTS (5), the RESTS (6)'");
+    e.about("Terms: '5, 6: STEP i .. says that of two ROWS of which a and b are the FIRSTS (5), the RESTS (6)'");
     right("FIRSTS", 5, 0, 2, 2, MIN);
     right("RESTS", 6, 1, 3, 2, MAX);
     wrong("RESTS as FIRSTS", 5, 1, 3, 2, 0);
@@ -328,6 +356,12 @@ public final class StepEdgesTest {
       wrong("STEP MIN", reason, a, b, MIN, 0);
       wrong("STEP MAX", reason, a, b, MAX, 0);
     }
+    EqualCourt z = scene();
+    z.claim(0, 8, 9, 3, 0);
+    z.claim(5, 0, 2, 0, 0);
+    e.due("FIRSTS by STEP 0", z.check(0, 2), -1);
+    z.claim(6, 1, 3, 0, 0);
+    e.due("RESTS by STEP 0", z.check(1, 3), -1);
     EqualCourt x = scene();
     x.say(8, 6);
     x.say(10, 11);

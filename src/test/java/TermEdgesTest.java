@@ -338,7 +338,8 @@ public final class TermEdgesTest {
   private static void partsThatItHasNot() {
     e.about("promise 8: 'BEYOND: it has no PART i'");
     EqualCourt x = Scenes.withNames(3);
-    int[] terms = {x.built(0, 1, 2, 1, 0), x.built(0, 2, 1, 2, 0), x.built(0, 3, 2, 0, 1), x.row(1, 0), x.even(0, 2, 1)};
+    int f = x.built(0, 1, 2, 1, 0), g = x.built(0, 2, 1, 2, 0), h = x.built(0, 3, 2, 0, 1);
+    int[] terms = {f, g, h, x.row(1, 0), x.even(0, 2, 1)};
     int[][] parts = {{2}, {1, 2}, {2, 0, 1}, {1, 0}, {2, 1}};
     for (int k = 0; k < terms.length; k++) {
       int many = parts[k].length;
