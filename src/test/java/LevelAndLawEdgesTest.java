@@ -302,6 +302,8 @@ public final class LevelAndLawEdgesTest {
     e.due("ended()", x.ended(), NONE);
     x.say(x.name(0), h2);
     e.refused(x, "a CLASS whose HEAD TERM is a HOLE", x.follow(0, 50), OPEN);
+    x.law(3, 3);
+    e.refused(x, "the same for a LAW without HOLES", x.follow(1, 50), OPEN);
     x.drop(0);
     e.fine(x, "the NAME is a CLASS again", x.follow(0, 50), 0);
     e.due("ended()", x.ended(), 0);
