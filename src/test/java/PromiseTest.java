@@ -1,9 +1,3 @@
-import java.lang.reflect.Constructor;
-import java.lang.reflect.Field;
-import java.lang.reflect.Method;
-import java.lang.reflect.Modifier;
-import java.util.TreeSet;
-
 /** At least one test for each promise of the document: ordinary inputs, its edges, and wrong inputs. */
 public final class PromiseTest {
   private static final int BEYOND = 1, KIND = 2, FULL = 3, CLASH = 4, GONE = 5, OPEN = 6, SPENT = 7, NEGATIVE = 8,
@@ -22,30 +16,6 @@ public final class PromiseTest {
     for (int i = 0; i < want.length; i++) e.due("because(" + i + ")", x.because(i), want[i]);
     e.due("because(-1)", x.because(-1), NONE);
     e.due("because(" + want.length + ")", x.because(want.length), NONE);
-  }
-
-  private static void face() {
-    TreeSet<String> seen = new TreeSet<>();
-    for (Method m : EqualCourt.class.getDeclaredMethods()) {
-      if (!Modifier.isPrivate(m.getModifiers())) {
-        seen.add(m.getReturnType() + " " + m.getName() + " " + m.getParameterCount());
-        for (Class<?> p : m.getParameterTypes()) e.due(m + " takes ints", p == int.class ? 1 : 0, 1);
-      }
-    }
-    String[] want = {"name 1", "number 1", "built 5", "row 2", "even 3", "kind 1", "part 2", "shows 1", "many 1",
-      "say 2", "unlike 2", "drop 1", "said 2", "clashed 1", "judge 2", "why 2", "least 3", "because 1", "head 1",
-      "member 2", "uses 2", "push 0", "pop 0", "law 2", "instance 4", "follow 2", "ended 0", "claim 5", "unclaim 0",
-      "check 2", "status 0"};
-    for (String w : want) e.due(w + " is there", seen.remove("int " + w) ? 1 : 0, 1);
-    e.due("world is there", seen.remove("long world 1") ? 1 : 0, 1);
-    e.due("no more than that is there: " + seen, seen.size(), 0);
-    for (Field f : EqualCourt.class.getDeclaredFields()) {
-      boolean isNone = f.getName().equals("NONE");
-      e.due(f + " is private", Modifier.isPrivate(f.getModifiers()) ? 1 : 0, isNone ? 0 : 1);
-    }
-    Constructor<?>[] made = EqualCourt.class.getDeclaredConstructors();
-    e.due("one constructor", made.length, 1);
-    e.due("NONE", EqualCourt.NONE, -1);
   }
 
   private static void newObject() {
@@ -820,8 +790,6 @@ public final class PromiseTest {
   }
 
   public static void main(String[] args) {
-    e.about("the face");
-    face();
     e.about("promise 1");
     newObject();
     e.about("promise 2");

@@ -82,13 +82,13 @@ public final class RefusalTest {
     no(CLASH, "unlike(0, 0)", x -> x.unlike(0, 0));
     no(GONE, "drop(0)", x -> x.drop(0));
     no(GONE, "drop(2)", x -> x.drop(2));
-    no(BEYOND, "drop(6)", x -> x.drop(6));
+    no(BEYOND, "drop(7)", x -> x.drop(7));
     no(OPEN, "why(1, 2)", x -> x.why(1, 2));
     no(OPEN, "least(1, 2, 500)", x -> x.least(1, 2, 500));
     no(OPEN, "least(3, 4, 1), ahead of SPENT", x -> x.least(3, 4, 1));
     no(SPENT, "least(8, 3, 1)", x -> x.least(8, 3, 1));
     no(SPENT, "least(0, 7, 3)", x -> x.least(0, 7, 3));
-    no(BEYOND, "follow(2, 1)", x -> x.follow(2, 1));
+    no(BEYOND, "follow(3, 1)", x -> x.follow(3, 1));
     no(BEYOND, "claim(1, 14, 0, 0, 0)", x -> x.claim(1, 14, 0, 0, 0));
     no(BEYOND, "row(0, 14)", x -> x.row(0, 14));
   }
@@ -103,7 +103,6 @@ public final class RefusalTest {
     no(FULL, "say(0, 0)", x -> x.say(0, 0));
     no(FULL, "say(93, 94), ahead of CLASH", x -> x.say(93, 94));
     no(FULL, "unlike(0, 0), ahead of CLASH", x -> x.unlike(0, 0));
-    no(FULL, "push()", x -> x.push());
     no(FULL, "law(0, 0)", x -> x.law(0, 0));
     no(FULL, "instance(91, 0, 0, 0)", x -> x.instance(91, 0, 0, 0));
     no(FULL, "claim(1, 0, 0, 0, 0)", x -> x.claim(1, 0, 0, 0, 0));
@@ -112,12 +111,7 @@ public final class RefusalTest {
   }
 
   private static void refusedWithHolesAlone() {
-    scene = () -> {
-      EqualCourt x = new EqualCourt();
-      x.law(x.name(90), x.name(91));
-      x.say(0, x.name(3));
-      return x;
-    };
+    scene = Scenes::holesAlone;
     no(OPEN, "follow(0, 1)", x -> x.follow(0, 1));
     no(BEYOND, "follow(0, 51), ahead of OPEN", x -> x.follow(0, 51));
     no(BEYOND, "follow(1, 1), ahead of OPEN", x -> x.follow(1, 1));
@@ -139,9 +133,7 @@ public final class RefusalTest {
   private static void asksAnywhere() {
     for (int n : new int[] {-1, 0, 3, 119, 120, MIN, MAX}) {
       ask("kind(" + n + ")", x -> x.kind(n));
-      ask("many(" + n + ")", x -> x.many(n));
       ask("said(" + n + ", 0)", x -> x.said(n, 0));
-      ask("said(0, " + n + ")", x -> x.said(0, n));
       ask("clashed(" + n + ")", x -> x.clashed(n));
       ask("judge(" + n + ", 2)", x -> x.judge(n, 2));
       ask("judge(4, " + n + ")", x -> x.judge(4, n));
@@ -153,6 +145,10 @@ public final class RefusalTest {
       ask("uses(0, " + n + ")", x -> x.uses(0, n));
       ask("world(" + n + ")", x -> x.world(n));
       ask("check(" + n + ", 0)", x -> x.check(n, 0));
+    }
+    for (int what : new int[] {-1, 0, 1, 2, 3, 4, 5, 6, 7, MIN, MAX}) {
+      ask("many(" + what + ")", x -> x.many(what));
+      ask("said(0, " + what + ")", x -> x.said(0, what));
     }
     ask("judge(0, 1)", x -> x.judge(0, 1));
     ask("judge(3, 4)", x -> x.judge(3, 4));
@@ -179,11 +175,25 @@ public final class RefusalTest {
     };
     refusedWhenBusy();
     asksAnywhere();
+    for (boolean forth : new boolean[] {true, false}) {
+      e.about("an object that has told all once more, " + (forth ? "forth" : "back"));
+      scene = () -> Scenes.told(forth);
+      refusedAnywhere();
+      refusedWhenBusy();
+      asksAnywhere();
+    }
+    e.about("an object without levels");
+    scene = Scenes::level;
+    no(MISSING, "pop()", x -> x.pop());
     e.about("a full object");
     scene = Scenes::full;
     refusedAnywhere();
     refusedWhenFull();
+    no(FULL, "push()", x -> x.push());
     asksAnywhere();
+    e.about("an object that is full but for levels");
+    scene = () -> Scenes.full(3);
+    refusedWhenFull();
     e.about("an object with HOLES alone");
     refusedWithHolesAlone();
     e.about("an object with little room");

@@ -74,8 +74,60 @@ final class Scenes {
     return x;
   }
 
+  /**
+   * busy(), and then each ACT of which something is remembered once more, in this order or the other way: each two of
+   * them come in both orders, so that what one of them would spoil of the other's is seen.
+   */
+  static EqualCourt told(boolean forth) {
+    EqualCourt x = busy();
+    for (int k = 0; k < 8; k++) tellOnce(x, forth ? k : 7 - k, forth);
+    return x;
+  }
+
+  private static void tellOnce(EqualCourt x, int what, boolean right) {
+    switch (what) {
+      case 0: x.least(8, 3, 500); break;
+      case 1: x.why(8, 3); break;
+      case 2: x.say(4, 8); break; // refused: CLASH with 3
+      case 3: x.unlike(8, 3); break; // refused: CLASH with 3
+      case 4: x.follow(0, 1); break; // 6: f(1) is 1; it ends as 1
+      case 5: x.claim(right ? 1 : 7, 2, 2, 0, 0); break;
+      case 6: x.law(0, 0); break;
+      default: x.push();
+    }
+  }
+
+  /** busy() without its levels, with all told once. */
+  static EqualCourt level() {
+    EqualCourt x = busy();
+    x.pop();
+    x.pop();
+    x.follow(0, 1); // 6: f(0) is 0; it ends as 1
+    x.why(0, 1);
+    x.say(1, 2); // refused: CLASH with 0 and 1
+    return x;
+  }
+
+  /** A LAW that was followed, and then nothing that could be gone over, with all told once. */
+  static EqualCourt holesAlone() {
+    EqualCourt x = new EqualCourt();
+    x.law(x.name(90), x.name(91));
+    x.name(3); // 2
+    x.follow(0, 1);
+    x.claim(1, 0, 0, 0, 0);
+    x.say(0, 2);
+    x.why(2, 0);
+    x.unlike(0, 2); // refused: CLASH with 0
+    return x;
+  }
+
   /** 120 TERMS, 100 SAYINGS, 10 LAWS, 100 STEPS and 10 levels. */
   static EqualCourt full() {
+    return full(10);
+  }
+
+  /** full(), but with so many levels of at most ten. */
+  static EqualCourt full(int levels) {
     EqualCourt x = withNames(91);
     x.built(0, 1, 90, 0, 0); // 91
     x.row(0, 1); // 92
@@ -84,7 +136,7 @@ final class Scenes {
     for (int i = 0; i < 10; i++) x.law(91, 90);
     for (int i = 0; i < 50; i++) {
       x.say(i, i + 1);
-      if (i % 5 == 0) x.push();
+      if (i % 5 == 0 && i / 5 < levels) x.push();
       x.unlike(i, 60 + i % 30);
       if (i == 40) x.unlike(39, 41); // refused: CLASH with two
     }

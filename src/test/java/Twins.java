@@ -2,8 +2,8 @@ import java.util.ArrayList;
 import java.util.List;
 
 /**
- * Two objects with the same past, but that one had a call more, must tell the same of all that can be asked. Each
- * pair is asked a few things only, so that all stays within the 512 calls that the document promises.
+ * Two objects with the same past, but that one had a call more, must tell the same of all that the call does not
+ * change. Each pair is asked a few things only, so that all stays within the 512 calls that the document promises.
  */
 final class Twins {
   interface Scene {
@@ -16,62 +16,76 @@ final class Twins {
 
   private record Question(String text, Call call) {}
 
+  /** What can be asked of one thing; OLD_ ones are those that Scenes.busy() has at least. */
+  enum About {
+    OLD_TERMS, OLD_JUDGEMENTS, NEW_TERMS, CLASSES, OLD_SAYINGS, OLD_TAKEN, NEW_SAYINGS, BECAUSE, CLASHED, ENDED, LAWS,
+    STEPS, LEVELS
+  }
+
   private static final int AT_ONCE = 150;
+  private static final int BUSY_TERMS = 14;
+  private static final int BUSY_SAYINGS = 6;
   private static final int MIN = Integer.MIN_VALUE;
   private static final int MAX = Integer.MAX_VALUE;
 
   private final Expect e;
-  private final List<Question> asks = new ArrayList<>();
-  private final List<Question> cores = new ArrayList<>();
-  private final List<Question> acts = new ArrayList<>();
+  private final List<List<Question>> groups = new ArrayList<>();
   private final List<List<Question>> futures = new ArrayList<>();
 
   Twins(Expect e) {
     this.e = e;
+    for (About a : About.values()) groups.add(new ArrayList<>());
     for (int t = -1; t <= 120; t++) askOfTerm(t);
     for (int t : new int[] {MIN, MAX}) askOfTerm(t);
     for (int s = -1; s <= 100; s++) askOfSaying(s);
-    for (int what = -1; what <= 7; what++) {
+    About[] counted = {
+      About.NEW_TERMS, About.NEW_SAYINGS, About.NEW_SAYINGS, About.LAWS, About.STEPS, About.LEVELS, About.CLASSES,
+    };
+    for (int what = 0; what <= 6; what++) {
       int w = what;
-      asks.add(new Question("many(" + w + ")", x -> x.many(w)));
+      ask(counted[what], "many(" + w + ")", x -> x.many(w));
     }
-    asks.add(new Question("ended()", EqualCourt::ended));
-    askOfSteps();
+    ask(About.ENDED, "ended()", EqualCourt::ended);
+    for (int[] ab : new int[][] {{0, 0}, {2, 2}, {8, 3}, {3, 8}, {99, 99}}) {
+      ask(About.STEPS, "check(" + ab[0] + ", " + ab[1] + ")", x -> x.check(ab[0], ab[1]));
+    }
     addFutures();
   }
 
+  private void ask(About about, String text, Call call) {
+    groups.get(about.ordinal()).add(new Question(text, call));
+  }
+
   private void askOfTerm(int t) {
-    asks.add(new Question("kind(" + t + ")", x -> x.kind(t)));
-    asks.add(new Question("head(" + t + ")", x -> x.head(t)));
-    asks.add(new Question("world(" + t + ")", x -> x.world(t)));
-    for (int k = 0; k < 2; k++) {
-      int i = k;
-      asks.add(new Question("member(" + t + ", " + i + ")", x -> x.member(t, i)));
-      asks.add(new Question("uses(" + t + ", " + i + ")", x -> x.uses(t, i)));
-    }
-    for (int b : new int[] {0, 2, 3, 8, 119}) {
-      asks.add(new Question("judge(" + t + ", " + b + ")", x -> x.judge(t, b)));
-    }
+    boolean old = t >= 0 && t < BUSY_TERMS;
+    About terms = old ? About.OLD_TERMS : About.NEW_TERMS;
+    About judgements = old ? About.OLD_JUDGEMENTS : About.NEW_TERMS;
+    ask(terms, "kind(" + t + ")", x -> x.kind(t));
     for (int k = 0; k < 3; k++) {
       int i = k;
-      acts.add(new Question("part(" + t + ", " + i + ")", x -> x.part(t, i)));
+      ask(terms, "part(" + t + ", " + i + ")", x -> x.part(t, i));
     }
-    acts.add(new Question("shows(" + t + ")", x -> x.shows(t)));
+    ask(terms, "shows(" + t + ")", x -> x.shows(t));
+    ask(judgements, "head(" + t + ")", x -> x.head(t));
+    ask(judgements, "member(" + t + ", 0)", x -> x.member(t, 0));
+    for (int b : new int[] {0, 2, 3, 8, 119}) {
+      ask(b < BUSY_TERMS ? judgements : About.NEW_TERMS, "judge(" + t + ", " + b + ")", x -> x.judge(t, b));
+    }
+    ask(About.CLASSES, "member(" + t + ", 1)", x -> x.member(t, 1));
+    ask(About.CLASSES, "uses(" + t + ", 0)", x -> x.uses(t, 0));
+    ask(About.CLASSES, "uses(" + t + ", 1)", x -> x.uses(t, 1));
+    ask(About.CLASSES, "world(" + t + ")", x -> x.world(t));
   }
 
   private void askOfSaying(int s) {
+    boolean old = s >= 0 && s < BUSY_SAYINGS;
     for (int k = 0; k < 4; k++) {
       int what = k;
-      asks.add(new Question("said(" + s + ", " + what + ")", x -> x.said(s, what)));
+      About about = !old ? About.NEW_SAYINGS : k == 3 ? About.OLD_TAKEN : About.OLD_SAYINGS;
+      ask(about, "said(" + s + ", " + what + ")", x -> x.said(s, what));
     }
-    asks.add(new Question("because(" + s + ")", x -> x.because(s)));
-    cores.add(new Question("clashed(" + s + ")", x -> x.clashed(s)));
-  }
-
-  private void askOfSteps() {
-    for (int[] ab : new int[][] {{0, 0}, {8, 3}, {3, 8}, {99, 99}}) {
-      asks.add(new Question("check(" + ab[0] + ", " + ab[1] + ")", x -> x.check(ab[0], ab[1])));
-    }
+    ask(About.BECAUSE, "because(" + s + ")", x -> x.because(s));
+    ask(About.CLASHED, "clashed(" + s + ")", x -> x.clashed(s));
   }
 
   /** What can't be asked for is seen by what comes later: each list is a run of calls of its own. */
@@ -110,22 +124,33 @@ final class Twins {
   void refusedChangesNothing(String text, Scene scene, Call act, int finding) {
     EqualCourt x = scene.make();
     e.refused(x, text, act.on(x), finding);
-    compare(text, scene, act, asks);
-    if (finding != 4) compare(text, scene, act, cores);
-    compareFuture(text, scene, act);
+    for (About a : About.values()) {
+      if (a != About.CLASHED || finding != 4) compare(text, scene, act, a);
+    }
+    compareFutures(text, scene, act);
   }
 
   /** An ASK changes nothing, not even status(). */
   void askChangesNothing(String text, Scene scene, Call ask) {
     compare(text, scene, ask, List.of(new Question("status()", EqualCourt::status)));
-    compare(text, scene, ask, asks);
-    compare(text, scene, ask, cores);
-    compareFuture(text, scene, ask);
+    for (About a : About.values()) compare(text, scene, ask, a);
+    compareFutures(text, scene, ask);
   }
 
-  private void compareFuture(String text, Scene scene, Call call) {
-    compare(text, scene, call, acts);
+  /** An ACT that is done, and what it leaves as it was. */
+  void doneLeaves(String text, Scene scene, Call act, About... left) {
+    EqualCourt x = scene.make();
+    act.on(x);
+    e.due(text + ", then status()", x.status(), 0);
+    for (About a : left) compare(text, scene, act, a);
+  }
+
+  private void compareFutures(String text, Scene scene, Call call) {
     for (List<Question> future : futures) compare(text, scene, call, future);
+  }
+
+  private void compare(String text, Scene scene, Call call, About about) {
+    compare(text, scene, call, groups.get(about.ordinal()));
   }
 
   private void compare(String text, Scene scene, Call call, List<Question> questions) {
