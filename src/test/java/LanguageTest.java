@@ -1,16 +1,26 @@
-import java.io.PrintWriter;
-import java.io.StringWriter;
+import com.sun.source.tree.CompilationUnitTree;
+import com.sun.source.tree.MethodInvocationTree;
+import com.sun.source.tree.MethodTree;
+import com.sun.source.util.JavacTask;
+import com.sun.source.util.TreePath;
+import com.sun.source.util.TreePathScanner;
+import com.sun.source.util.Trees;
 import java.lang.reflect.Field;
 import java.lang.reflect.Method;
 import java.lang.reflect.Modifier;
 import java.nio.file.Files;
 import java.nio.file.Path;
+import java.util.ArrayList;
+import java.util.List;
 import java.util.Map;
 import java.util.TreeMap;
 import java.util.TreeSet;
 import java.util.regex.Matcher;
 import java.util.regex.Pattern;
-import java.util.spi.ToolProvider;
+import javax.lang.model.element.Element;
+import javax.tools.JavaCompiler;
+import javax.tools.StandardJavaFileManager;
+import javax.tools.ToolProvider;
 
 /** The rules of LANGUAGE.md that can be seen from the text of the program or from its classes. */
 public final class LanguageTest {
@@ -81,32 +91,36 @@ public final class LanguageTest {
     }
   }
 
-  /** Which methods of the program each of its methods calls, as javap tells. */
-  private static Map<String, TreeSet<String>> calls() {
-    StringWriter text = new StringWriter();
-    String[] args = new String[EqualCourt.class.getDeclaredClasses().length + 5];
-    args[0] = "-p";
-    args[1] = "-c";
-    args[2] = "-cp";
-    args[3] = System.getProperty("java.class.path");
-    args[4] = "EqualCourt";
-    for (int i = 5; i < args.length; i++) args[i] = EqualCourt.class.getDeclaredClasses()[i - 5].getName();
-    e.due("javap ends well", ToolProvider.findFirst("javap").orElseThrow()
-        .run(new PrintWriter(text), new PrintWriter(text), args), 0);
+  /** Which methods each method of the program calls, the library's too, as the compiler reads it. */
+  private static Map<String, TreeSet<String>> calls() throws Exception {
     Map<String, TreeSet<String>> calls = new TreeMap<>();
-    String inClass = "";
-    String inMethod = "";
-    for (String line : text.toString().split("\n")) {
-      Matcher c = Pattern.compile("\\bclass (EqualCourt\\S*) ").matcher(line);
-      Matcher m = Pattern.compile("^  (?:\\S.* )?([\\w$]+)\\(.*\\);$").matcher(line);
-      Matcher call = Pattern.compile("invoke\\w+ .*// Method (?:(\\S+)\\.)?(\\w+):").matcher(line);
-      if (c.find()) inClass = c.group(1);
-      if (m.find()) inMethod = inClass + "." + m.group(1);
-      if (!call.find()) continue;
-      String of = call.group(1) == null ? inClass : call.group(1);
-      calls.computeIfAbsent(inMethod, k -> new TreeSet<>()).add(of + "." + call.group(2));
-    }
+    JavaCompiler javac = ToolProvider.getSystemJavaCompiler();
+    StandardJavaFileManager files = javac.getStandardFileManager(null, null, null);
+    JavacTask task = (JavacTask) javac.getTask(
+        null, files, null, List.of("-proc:none"), null, files.getJavaFileObjects("src/main/java/EqualCourt.java"));
+    List<CompilationUnitTree> units = new ArrayList<>();
+    task.parse().forEach(units::add);
+    task.analyze();
+    Trees trees = Trees.instance(task);
+    new TreePathScanner<Void, String>() {
+      @Override
+      public Void visitMethod(MethodTree node, String within) {
+        return super.visitMethod(node, nameOf(trees.getElement(getCurrentPath())));
+      }
+
+      @Override
+      public Void visitMethodInvocation(MethodInvocationTree node, String within) {
+        Element called = trees.getElement(new TreePath(getCurrentPath(), node.getMethodSelect()));
+        calls.computeIfAbsent(within, k -> new TreeSet<>()).add(nameOf(called));
+        return super.visitMethodInvocation(node, within);
+      }
+    }.scan(units, "");
+    files.close();
     return calls;
+  }
+
+  private static String nameOf(Element method) {
+    return method.getEnclosingElement() + "." + method.getSimpleName();
   }
 
   /** How many calls are open at once at most, this one among them; 99 if there is no end to it. */
@@ -117,7 +131,7 @@ public final class LanguageTest {
     return most + 1;
   }
 
-  private static void callsAreShallow() {
+  private static void callsAreShallow() throws Exception {
     Map<String, TreeSet<String>> calls = calls();
     int most = 0;
     for (Method m : EqualCourt.class.getDeclaredMethods()) {
