@@ -128,6 +128,67 @@ public final class SayingEdgesTest {
     e.due("the FIRST stays apart", y.judge(0, 1), 2);
   }
 
+  /** ROWS of n TERMS: the NAMES from the given one on, in RESTS of RESTS, and at the end a NAME of its own. */
+  private static int longRow(EqualCourt x, int from, int n, boolean atRests) {
+    int row = from + n;
+    for (int i = n - 1; i >= 0; i--) row = atRests ? x.row(from + i, row) : x.row(row, from + i);
+    return row;
+  }
+
+  private static void longRowsTellOfAllTheirParts() {
+    e.about("Terms: 'if two ROWS are ONE, their FIRSTS are, and their RESTS': ROWS in ROWS");
+    for (boolean atRests : new boolean[] {true, false}) {
+      EqualCourt x = Scenes.withNames(60);
+      int left = longRow(x, 0, 29, atRests), right = longRow(x, 30, 29, atRests);
+      e.due("TERMS", x.many(0), 118);
+      x.say(left, right);
+      for (int i = 0; i < 30; i++) e.due("NAME " + i + " and its mate", x.judge(i, i + 30), 1);
+      e.due("no FIRST with another", x.judge(0, 31), 2);
+      e.due("half of them are CLASSES", x.many(6), 59);
+      e.due("by one SAYING", x.why(29, 59), 1);
+      x.drop(0);
+      e.due("none is without it", x.many(6), 118);
+      x.unlike(29, 59);
+      e.due("the last of all is unlike", x.judge(left, right), 0);
+    }
+    // ROWS at both places: all eight leaves of two trees.
+    EqualCourt y = Scenes.withNames(16);
+    int[] level = new int[16];
+    for (int i = 0; i < 16; i++) level[i] = i;
+    for (int n = 8; n >= 2; n /= 2) {
+      for (int i = 0; i < n; i++) level[i] = y.row(level[2 * i], level[2 * i + 1]);
+    }
+    y.say(level[1], level[0]);
+    for (int i = 0; i < 8; i++) e.due("leaf " + i, y.judge(i, i + 8), 1);
+    e.due("and no more", y.many(6), 15);
+  }
+
+  private static void upAndDownAgain() {
+    e.about("Terms: what follows from what follows");
+    EqualCourt x = Scenes.withNames(8);
+    int f0 = x.built(0, 1, 0, 0, 0), f1 = x.built(0, 1, 1, 0, 0), r = x.row(2, 3), q = x.row(4, 5);
+    int v = x.even(0, 2, 6), w = x.even(0, 6, 4), g = x.built(1, 2, v, 3, 0), k = x.built(1, 2, w, 5, 0);
+    int p = x.row(g, 7), t = x.row(k, 0);
+    x.say(f0, r);
+    x.say(f1, q);
+    x.say(p, t);
+    e.due("0 is 7 by RESTS, and no more", x.judge(0, 7), 1);
+    e.due("g is k by FIRSTS", x.judge(g, k), 1);
+    e.due("but not what they are built of", x.judge(v, w), 2);
+    x.drop(2);
+    e.due("not yet", x.judge(p, t), 2);
+    x.say(0, 1);
+    e.due("f(0) is f(1)", x.judge(f0, f1), 1);
+    e.due("so the ROWS are", x.judge(r, q), 1);
+    e.due("so their FIRSTS are", x.judge(2, 4), 1);
+    e.due("so the EVEN ones are", x.judge(v, w), 1);
+    e.due("so what is built of these and the RESTS is", x.judge(g, k), 1);
+    e.due("but no ROW whose REST is another", x.judge(p, t), 2);
+    x.say(7, 1);
+    e.due("until it is that one too", x.judge(p, t), 1);
+    e.due("by all but the one that is GONE", x.why(p, t), 4);
+  }
+
   private static void aTermThatComesLater() {
     e.about("Terms: 'CLASSES are all TERMS that are ONE with one another': one that comes behind the SAYINGS");
     EqualCourt x = Scenes.withNames(4);
@@ -571,6 +632,8 @@ public final class SayingEdgesTest {
     rowsByTheirParts();
     evenOnesByTheirParts();
     rowsTellOfTheirParts();
+    longRowsTellOfAllTheirParts();
+    upAndDownAgain();
     aTermThatComesLater();
     whatIsBuiltOfTheSameParts();
     whatIsBuiltOfTenNames();

@@ -288,6 +288,12 @@ public final class StepEdgesTest {
       x.claim(4, ab[0], ab[1], 0, 0);
       e.due("another HEAD, not as many PARTS, or none: " + ab[0] + " and " + ab[1], x.check(ab[0], ab[1]), 3);
     }
+    int ofZero = x.built(2, 1, number, 0, 0), ofOne = x.built(2, 1, x.number(1), 0, 0), of0 = x.built(2, 1, 0, 0, 0);
+    for (int[] ab : new int[][] {{ofZero, ofOne}, {ofZero, of0}, {of0, x.built(2, 1, 1, 0, 0)}}) {
+      x.unclaim();
+      x.claim(4, ab[0], ab[1], 0, 0);
+      e.due("PARTS of which no STEP says it: " + ab[0] + " and " + ab[1], x.check(ab[0], ab[1]), 0);
+    }
     x.unclaim();
     x.claim(0, 0, 3, 0, 0);
     x.claim(4, fs[1], gs[1], 0, 0);
